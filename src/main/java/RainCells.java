@@ -400,15 +400,15 @@ public final class RainCells {
         return what == 0 ? upper(above, below) : lower(above, below);
     }
 
+    /** In lowest terms; 0 by 0 is told as 0 by 1 too: a CATCHMENT without a PLOT has WEIGHTS of 0. */
     private static int upper(int above, int below) {
         int divisor = commonDivisor(above, below);
-        return above == 0 || divisor == 0 ? 0 : above / divisor;
+        return divisor == 0 ? 0 : above / divisor;
     }
 
-    /** 0 is 0 by 1, also where there is nothing to divide by. */
     private static int lower(int above, int below) {
         int divisor = commonDivisor(above, below);
-        return above == 0 || divisor == 0 ? 1 : below / divisor;
+        return divisor == 0 ? 1 : below / divisor;
     }
 
     /** Of two numbers from 0 on; no two ints need more than 46 steps. */
@@ -618,10 +618,15 @@ public final class RainCells {
         }
 
         private void claim(Scene scene, int g, int[] lefts) {
+            int placeX = scene.placeX[g];
             for (int y = 0; y < SIDE; y++) {
-                for (int x = scene.rowFrom[y]; x <= scene.rowTo[y]; x++) {
+                int dy = y - scene.placeY[g];
+                int leftInY = dy * dy - scene.reaches[g];
+                int to = scene.rowTo[y];
+                for (int x = scene.rowFrom[y]; x <= to; x++) {
+                    int dx = x - placeX;
+                    int left = dx * dx + leftInY;
                     int p = y * SIDE + x;
-                    int left = scene.farFrom(g, x, y) - scene.reaches[g];
                     if (left < lefts[p]) {
                         lefts[p] = left;
                         owners[p] = g;
