@@ -108,9 +108,11 @@ public final class ModelTest {
             }
         }
         if (narrow) {
+            boolean bare = random.nextBoolean();  // no PLOT, or a few in one ROW
+            int only = random.nextInt(32);
             for (int y = 0; y <= 15; y++) {
                 int from = random.nextInt(16);
-                boolean empty = random.nextInt(3) > 0;
+                boolean empty = bare ? y != only : random.nextInt(3) > 0;
                 calls.add(new int[] {0, y, empty ? 1 : from, empty ? 0 : Math.min(15, from + random.nextInt(4))});
             }
         }
