@@ -119,84 +119,14 @@ public final class ModelTest {
         return calls;
     }
 
-    private static final String[] NAMES = {
-        "row", "gauge", "move", "reach", "fail", "rain", "of", "reading", "working", "owner", "cell", "border",
-        "neighbours", "mean", "total", "spread", "next", "shared", "estimate", "doubt", "kept", "image", "restore", "count"};
-
-    private static int ask(RainCells x, int[] c) {
-        return switch (c[0]) {
-            case 0 -> x.row(c[1], c[2], c[3]);
-            case 1 -> x.gauge(c[1], c[2]);
-            case 2 -> x.move(c[1], c[2], c[3]);
-            case 3 -> x.reach(c[1], c[2]);
-            case 4 -> x.fail(c[1], c[2], c[3], c[4]);
-            case 5 -> x.rain(c[1], c[2], c[3]);
-            case 6 -> x.of(c[1], c[2]);
-            case 7 -> x.reading(c[1], c[2]);
-            case 8 -> x.working(c[1]);
-            case 9 -> x.owner(c[1], c[2], c[3]);
-            case 10 -> x.cell(c[1], c[2], c[3]);
-            case 11 -> x.border(c[1], c[2], c[3]);
-            case 12 -> x.neighbours(c[1], c[2]);
-            case 13 -> x.mean(c[1], c[2]);
-            case 14 -> x.total(c[1], c[2], c[3]);
-            case 15 -> x.spread(c[1]);
-            case 16 -> x.next(c[1], c[2]);
-            case 17 -> x.shared(c[1], c[2], c[3]);
-            case 18 -> x.estimate(c[1], c[2], c[3]);
-            case 19 -> x.doubt(c[1], c[2]);
-            case 20 -> x.kept(c[1]);
-            case 21 -> x.image(c[1]);
-            case 22 -> x.restore(c[1]);
-            default -> x.count(c[1]);
-        };
-    }
-
-    private static int ask(Model x, int[] c) {
-        return switch (c[0]) {
-            case 0 -> x.row(c[1], c[2], c[3]);
-            case 1 -> x.gauge(c[1], c[2]);
-            case 2 -> x.move(c[1], c[2], c[3]);
-            case 3 -> x.reach(c[1], c[2]);
-            case 4 -> x.fail(c[1], c[2], c[3], c[4]);
-            case 5 -> x.rain(c[1], c[2], c[3]);
-            case 6 -> x.of(c[1], c[2]);
-            case 7 -> x.reading(c[1], c[2]);
-            case 8 -> x.working(c[1]);
-            case 9 -> x.owner(c[1], c[2], c[3]);
-            case 10 -> x.cell(c[1], c[2], c[3]);
-            case 11 -> x.border(c[1], c[2], c[3]);
-            case 12 -> x.neighbours(c[1], c[2]);
-            case 13 -> x.mean(c[1], c[2]);
-            case 14 -> x.total(c[1], c[2], c[3]);
-            case 15 -> x.spread(c[1]);
-            case 16 -> x.next(c[1], c[2]);
-            case 17 -> x.shared(c[1], c[2], c[3]);
-            case 18 -> x.estimate(c[1], c[2], c[3]);
-            case 19 -> x.doubt(c[1], c[2]);
-            case 20 -> x.kept(c[1]);
-            case 21 -> x.image(c[1]);
-            case 22 -> x.restore(c[1]);
-            default -> x.count(c[1]);
-        };
-    }
-
-    private static String told(int[] c) {
-        StringBuilder text = new StringBuilder(NAMES[c[0]]).append('(');
-        for (int i = 1; i < c.length; i++) {
-            text.append(i == 1 ? "" : ", ").append(c[i]);
-        }
-        return text.append(')').toString();
-    }
-
     private void run(Check check, int[][] seen) {
         RainCells cells = new RainCells();
         Model model = new Model();
         List<int[]> calls = opening();
         for (int i = 0; i < CALLS && check.isClean(); i++) {
             int[] c = i < calls.size() ? calls.get(i) : call(model);
-            int want = ask(model, c);
-            check.due("call " + i + ", " + told(c), ask(cells, c), want);
+            int want = Calls.ask(model, c);
+            check.due("call " + i + ", " + Calls.told(c), Calls.ask(cells, c), want);
             seen[c[0]][want >= 0 ? 0 : -want]++;
         }
     }
@@ -205,14 +135,14 @@ public final class ModelTest {
         int runs = args.length > 0 ? Integer.parseInt(args[0]) : RUNS;
         int first = args.length > 1 ? Integer.parseInt(args[1]) : 1;
         Check check = new Check();
-        int[][] seen = new int[NAMES.length][7];
+        int[][] seen = new int[Calls.NAMES.length][7];
         for (int seed = first; seed < first + runs && check.isClean(); seed++) {
             check.part("run by seed " + seed);
             new ModelTest(seed).run(check, seen);
         }
         if (args.length > 2) {
-            for (int i = 0; i < NAMES.length; i++) {
-                System.out.println(NAMES[i] + " " + java.util.Arrays.toString(seen[i]));
+            for (int i = 0; i < Calls.NAMES.length; i++) {
+                System.out.println(Calls.NAMES[i] + " " + java.util.Arrays.toString(seen[i]));
             }
         }
         check.end("ModelTest");

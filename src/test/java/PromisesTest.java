@@ -3,35 +3,11 @@
  * answers were worked out by hand from the document.
  */
 public final class PromisesTest {
-    /** A CATCHMENT of ROW 0 alone. */
-    private static final String ROW_0_ALONE = """
-        row(1, 1, 0) = 240; row(2, 1, 0) = 224; row(3, 1, 0) = 208; row(4, 1, 0) = 192
-        row(5, 1, 0) = 176; row(6, 1, 0) = 160; row(7, 1, 0) = 144; row(8, 1, 0) = 128
-        row(9, 1, 0) = 112; row(10, 1, 0) = 96; row(11, 1, 0) = 80; row(12, 1, 0) = 64
-        row(13, 1, 0) = 48; row(14, 1, 0) = 32; row(15, 1, 0) = 16
-        """;
-
-    private static final String NO_PLOT = ROW_0_ALONE + "row(0, 1, 0) = 0\n";
-
-    /** Two GAUGES, each of which HAS half of the PLOTS: x 0 to 7, x 8 to 15. */
-    private static final String HALVES = """
-        gauge(0, 0) = 0; gauge(15, 0) = 1
-        rain(0, 0, 10) = NONE; rain(1, 0, 21) = NONE
-        """;
-
-    /** On ROW 0 alone: 0 HAS x 0 to 3, 1 HAS 4 to 11, 2 HAS 12 to 15; without 1: 0 to 7, 8 to 15. */
-    private static final String THREE_IN_ROW_0 = ROW_0_ALONE + """
-        gauge(0, 0) = 0; gauge(7, 0) = 1; gauge(15, 0) = 2
-        rain(0, 0, 10) = NONE; rain(1, 0, 18) = NONE; rain(2, 0, 20) = NONE
-        """;
-
-    /** GAUGE g HAS the PLOTS of x 2g and 2g + 1 (as FAR from the next one), and the READING g + 1 on DAY 63. */
-    private static final String EIGHT = """
-        gauge(0, 15) = 0; gauge(2, 15) = 1; gauge(4, 15) = 2; gauge(6, 15) = 3
-        gauge(8, 15) = 4; gauge(10, 15) = 5; gauge(12, 15) = 6; gauge(14, 15) = 7
-        rain(0, 63, 1) = NONE; rain(1, 63, 2) = NONE; rain(2, 63, 3) = NONE; rain(3, 63, 4) = NONE
-        rain(4, 63, 5) = NONE; rain(5, 63, 6) = NONE; rain(6, 63, 7) = NONE; rain(7, 63, 8) = NONE
-        """;
+    private static final String ROW_0_ALONE = Scenes.ROW_0_ALONE;
+    private static final String NO_PLOT = Scenes.NO_PLOT;
+    private static final String HALVES = Scenes.HALVES;
+    private static final String THREE_IN_ROW_0 = Scenes.THREE_IN_ROW_0;
+    private static final String EIGHT = Scenes.EIGHT;
 
     private PromisesTest() {
     }
@@ -408,7 +384,8 @@ public final class PromisesTest {
             fail(1, 0, 0, 0) = 0; cell(0, 0, 0) = 4; kept(0) = 5; kept(1) = 7; kept(2) = NONE
             kept(-1) = NONE; kept(MIN) = NONE; kept(MAX) = NONE; kept(6) = NONE
             """);
-        Script.run(check, "Promise 22: the seventh", sevenSets() + """
+        Script.run(check, "Promise 22: the seventh", Scenes.A_SET_A_DAY + """
+            total(0, 63, 2) = 7
             count(2) = 6; count(4) = 7; count(5) = 1; kept(0) = 2; kept(1) = 3; kept(4) = 6; kept(5) = 7; kept(6) = NONE
             spread(2) = 39680; kept(0) = 3; kept(5) = 2; count(3) = 1; count(5) = 1
             spread(1) = 39680; kept(0) = 4; kept(4) = 2; kept(5) = 1; count(5) = 2; count(4) = 8
@@ -445,19 +422,6 @@ public final class PromisesTest {
             count(7) = OUTSIDE; count(8) = OUTSIDE; count(9) = OUTSIDE; count(26) = OUTSIDE; count(29) = OUTSIDE
             count(46) = OUTSIDE; count(-1) = OUTSIDE; count(MAX) = OUTSIDE; count(MIN) = OUTSIDE
             """);
-    }
-
-    /** On DAY d the set d is WORKING, and then all seven are LOOKED UP, rising. */
-    private static String sevenSets() {
-        StringBuilder text = new StringBuilder("gauge(0, 0) = 0; gauge(15, 0) = 1; gauge(0, 15) = 2\n");
-        for (int day = 1; day <= 7; day++) {
-            for (int g = 0; g < 3; g++) {
-                if ((day & (1 << g)) != 0) {
-                    text.append("rain(").append(g).append(", ").append(day).append(", 1) = NONE\n");
-                }
-            }
-        }
-        return text.append("total(0, 63, 2) = 7\n").toString();
     }
 
     private static void lookingUp(Check check) {

@@ -12,15 +12,23 @@ final class Script {
     private static final Pattern CALL = Pattern.compile("(\\w+)\\(([^)]*)\\) = (\\S+)");
 
     private final Check check;
-    private RainCells cells = new RainCells();
+    private final Class<?> type;
+    private Object cells;
 
-    private Script(Check check) {
+    private Script(Check check, Class<?> type) {
         this.check = check;
+        this.type = type;
+        cells = made();
     }
 
     static void run(Check check, String part, String text) {
+        run(check, RainCells.class, part, text);
+    }
+
+    /** The same with another class of the same face. */
+    static void run(Check check, Class<?> type, String part, String text) {
         check.part(part);
-        Script script = new Script(check);
+        Script script = new Script(check, type);
         for (String line : text.split("\n")) {
             for (String step : line.replaceAll("#.*", "").split(";")) {
                 if (!step.isBlank()) {
@@ -32,7 +40,7 @@ final class Script {
 
     private void step(String text) {
         if (text.equals("new")) {
-            cells = new RainCells();
+            cells = made();
             return;
         }
         Matcher call = CALL.matcher(text);
@@ -50,9 +58,17 @@ final class Script {
         check.due(text, answer(call.group(1), types, numbers), number(call.group(3)));
     }
 
+    private Object made() {
+        try {
+            return type.getConstructor().newInstance();
+        } catch (ReflectiveOperationException e) {
+            throw new IllegalStateException("no object of " + type, e);
+        }
+    }
+
     private int answer(String name, Class<?>[] types, Object[] numbers) {
         try {
-            Method method = RainCells.class.getMethod(name, types);
+            Method method = type.getMethod(name, types);
             return (Integer) method.invoke(cells, numbers);
         } catch (InvocationTargetException e) {
             throw new IllegalStateException(name + " threw", e.getCause());
