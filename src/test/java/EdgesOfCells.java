@@ -58,11 +58,15 @@ final class EdgesOfCells {
             row(0, 0, 1) = 2; row(1, 0, 0) = 3; gauge(1, 1) = 0; gauge(0, 0) = 1; rain(0, 0, 1) = NONE; rain(1, 0, 1) = NONE
             border(0, 0, 1) = 2; border(0, 1, 0) = 2; border(0, 1, 1) = 2; border(0, 0, 0) = 6
             """,
-            // at every edge of the 256 PLOTS
+            // halves, and a column or a ROW at each edge of the 256 PLOTS
             """
             gauge(0, 7) = 0; gauge(15, 7) = 1; gauge(7, -20) = 2; rain(0, 0, 1) = NONE; rain(1, 0, 1) = NONE
             border(0, 0, 1) = 16; border(0, 1, 0) = 16; move(0, 7, 0) = 98; move(1, 7, 15) = 128; border(0, 0, 1) = 16
             border(0, 0, 2) = 0; border(0, 2, 0) = 0; border(0, 2, 2) = 0
+            move(0, 0, 7) = 98; move(1, 1, 7) = 100; border(0, 0, 1) = 16; border(0, 1, 0) = 16
+            move(0, 14, 7) = 196; move(1, 15, 7) = 196; border(0, 0, 1) = 16; border(0, 1, 0) = 16
+            move(0, 7, 0) = 98; move(1, 7, 1) = 100; border(0, 0, 1) = 16; border(0, 1, 0) = 16
+            move(0, 7, 14) = 196; move(1, 7, 15) = 196; border(0, 0, 1) = 16; border(0, 1, 0) = 16
             """);
         edges.add("Promise 13", "h = g: at how many sides of its PLOTS the next PLOT is not of the CATCHMENT, or there is none.",
             // there is none, at all four edges
@@ -100,6 +104,15 @@ final class EdgesOfCells {
             rain(2, 0, NONE) = 1; rain(3, 0, 1) = NONE; neighbours(0, 0) = 8; rain(3, 0, NONE) = 1; rain(4, 0, 1) = NONE; neighbours(0, 0) = 16
             neighbours(0, 4) = 1; neighbours(0, 3) = 0
             """,
+            // at the edges of the 256 PLOTS
+            Scenes.NO_PLOT + """
+            gauge(0, 7) = 0; gauge(0, 8) = 1; rain(0, 0, 1) = NONE; rain(1, 0, 1) = NONE
+            row(7, 0, 0) = 1; row(8, 0, 0) = 2; neighbours(0, 0) = 2; neighbours(0, 1) = 1; border(0, 0, 1) = 1; border(0, 1, 0) = 1
+            row(7, 15, 15) = 2; row(8, 15, 15) = 2; neighbours(0, 0) = 2; neighbours(0, 1) = 1; border(0, 0, 1) = 1; border(0, 1, 0) = 1
+            row(7, 1, 0) = 1; row(8, 1, 0) = 0; move(0, 7, 0) = 98; move(1, 8, 0) = 128
+            row(0, 7, 8) = 2; neighbours(0, 0) = 2; neighbours(0, 1) = 1; border(0, 0, 1) = 1; border(0, 1, 0) = 1
+            row(0, 1, 0) = 0; row(15, 7, 8) = 2; neighbours(0, 0) = 2; neighbours(0, 1) = 1; border(0, 0, 1) = 1; border(0, 1, 0) = 1
+            """,
             // a GAUGE without a PLOT, a CATCHMENT without one
             Scenes.HALVES + "reach(0, 400) = 1000; neighbours(0, 0) = 0; neighbours(0, 1) = 0; reach(0, 0) = 1400; neighbours(0, 1) = 1",
             Scenes.HALVES + Scenes.NO_PLOT + "neighbours(0, 0) = 0; neighbours(0, 1) = 0");
@@ -117,7 +130,9 @@ final class EdgesOfCells {
             """,
             // as large a fraction as there is: 128 PLOTS of 9999, 127 of 9998
             Scenes.HALVES + "rain(1, 0, 9999) = 21; rain(0, 0, 9998) = 10; row(9, 1, 15) = 255; mean(0, 0) = 2549618; mean(0, 1) = 255",
-            Scenes.ROW_0_ALONE + "row(0, 9, 9) = 1; gauge(0, 0) = 0; rain(0, 0, 7) = NONE; mean(0, 0) = 7; mean(0, 1) = 1");
+            Scenes.ROW_0_ALONE + "row(0, 9, 9) = 1; gauge(0, 0) = 0; rain(0, 0, 7) = NONE; mean(0, 0) = 7; mean(0, 1) = 1",
+            // as many GAUGES as there can be
+            Scenes.EIGHT + "mean(63, 0) = 9; mean(63, 1) = 2; rain(7, 63, 9999) = 8; mean(63, 0) = 10027; mean(63, 1) = 8");
         edges.add("Promise 15", "OUTSIDE; STATE: it has none.",
             Scenes.HALVES + Scenes.forEach("N", "-1 64 MAX MIN", "mean(N, 0) = OUTSIDE") + Scenes.forEach("N", "-1 2 3 MAX MIN", "mean(0, N) = OUTSIDE; mean(1, N) = OUTSIDE"),
             Scenes.HALVES + "mean(1, 0) = STATE; mean(1, 1) = STATE; fail(0, 0, 0, 1) = 1; mean(0, 0) = 21; fail(1, 0, 0, 1) = 1; mean(0, 0) = STATE",
@@ -139,7 +154,7 @@ final class EdgesOfCells {
             total(0, 63, 0) = 163183552; total(0, 63, 1) = 255; fail(1, 0, 0, 1) = 1; total(0, 63, 0) = 639936; total(0, 63, 1) = 1
             """);
         edges.add("Promise 16", "how many have one (2).",
-            Scenes.HALVES + "total(0, 63, 2) = 1; total(1, 63, 2) = 0; rain(1, 63, 0) = NONE; total(0, 63, 2) = 2; fail(1, 63, 63, 1) = 1; total(0, 63, 2) = 1",
+            Scenes.HALVES + "total(0, 63, 2) = 1; total(1, 63, 2) = 0; rain(1, 63, 0) = NONE; total(0, 63, 2) = 2; total(1, 63, 2) = 1; fail(1, 63, 63, 1) = 1; total(0, 63, 2) = 1",
             Scenes.HALVES + Scenes.NO_PLOT + "total(0, 63, 2) = 0; total(0, 63, 0) = 0; total(0, 63, 1) = 1");
         edges.add("Promise 16", "OUTSIDE: both DAYS, from greater than to, what.",
             Scenes.HALVES + Scenes.forEach("N", "-1 64 MAX MIN", """
@@ -181,6 +196,10 @@ final class EdgesOfCells {
             Scenes.ROW_0_ALONE + """
             row(0, 0, 2) = 3; gauge(0, 0) = 0; rain(0, 0, 5) = NONE; reach(0, 400) = 1000; next(0, 0) = 1; next(0, 2) = 5
             reach(0, -400) = 1400; next(0, 0) = 1; next(0, 2) = 2; reach(0, 4) = 600; next(0, 0) = 1; next(0, 2) = 5; reach(0, 3) = 1004; next(0, 0) = 2; next(0, 2) = 1
+            """,
+            Scenes.ROW_0_ALONE + """
+            row(0, 0, 2) = 3; gauge(20, 20) = 0; gauge(0, 0) = 1; rain(1, 0, 5) = NONE; reach(1, 400) = 1000; next(0, 0) = 1; next(0, 2) = 5
+            reach(1, 3) = 1400; next(0, 0) = 2; next(0, 2) = 1
             """,
             // none is WORKING: the one more alone
             Scenes.ROW_0_ALONE + "gauge(0, 0) = 0; next(0, 0) = 7; next(0, 2) = 344; rain(0, 0, 1) = NONE; next(0, 0) = 10; next(0, 2) = 140");

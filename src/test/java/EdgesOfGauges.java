@@ -33,7 +33,7 @@ final class EdgesOfGauges {
             """);
         edges.add("Promise 2", "none, if from is greater than to",
             """
-            row(5, 9, 9) = 241; count(15) = 9; count(35) = 9; row(5, 10, 9) = 240; count(15) = NONE; count(35) = NONE; count(1) = 240
+            row(5, 9, 9) = 241; count(15) = 9; count(35) = 9; row(5, 11, 9) = 240; row(5, 10, 9) = 240; count(15) = NONE; count(35) = NONE; count(1) = 240
             row(5, 15, 0) = 240; count(15) = NONE; row(5, 0, 15) = 256; row(5, 1, 0) = 240; row(5, 15, 14) = 240; row(5, 14, 15) = 242
             """,
             Scenes.HALVES + "row(0, 8, 7) = 240; owner(0, 7, 0) = NO; owner(0, 8, 0) = NO; owner(0, 7, 1) = 0; cell(0, 0, 0) = 120");

@@ -38,6 +38,8 @@ final class EdgesOfKept {
             of(7, 0) = 1014; of(7, 1) = 1015; of(7, 2) = 600; of(7, 3) = 1; of(7, 4) = 1; reading(7, 63) = 8; working(63) = 127
             of(0, 0) = 1000; of(0, 1) = 1015; of(0, 2) = 1000; of(0, 3) = 1; of(0, 4) = 2; reading(0, 0) = 0; working(0) = 0
             """,
+            "row(15, 3, 9) = 247; row(0, 3, 9) = 238; image(0) = 1; row(0, 5, 6) = 233; row(15, 5, 6) = 228; restore(0) = 1\n"
+                + "count(10) = 3; count(30) = 9; count(25) = 3; count(45) = 9; count(1) = 238",
             // an IMAGE of a new object
             "image(0) = 1\n" + Scenes.HALVES + "row(0, 1, 0) = 240; restore(0) = 1; count(0) = 0; count(1) = 256; working(0) = 0; of(0, 0) = UNKNOWN",
             // one does not touch the other one

@@ -33,7 +33,7 @@ final class EdgesOfLoss {
         edges.add("Promise 20", "The ESTIMATE of g on a DAY: the upper number (what = 0), the lower one (1)",
             Scenes.HALVES + """
             rain(1, 0, 0) = 21; estimate(0, 0, 0) = 0; estimate(0, 0, 1) = 1; rain(1, 0, 9999) = 0; estimate(0, 0, 0) = 9999; estimate(0, 0, 1) = 1
-            estimate(0, 1, 0) = 10; estimate(0, 1, 1) = 1
+            estimate(0, 1, 0) = 10; estimate(0, 1, 1) = 1; rain(0, 63, 3) = NONE; rain(1, 63, 4) = NONE; estimate(63, 0, 0) = 4; estimate(63, 1, 0) = 3
             """,
             // as large a fraction as there is: 2 takes 127 PLOTS from 0, and 128 from 1
             Scenes.HALVES + """

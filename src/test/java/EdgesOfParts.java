@@ -167,6 +167,11 @@ final class EdgesOfParts {
             cell(0, 0, 1) = 1; cell(0, 0, 2) = 4; cell(0, 1, 1) = 1; cell(0, 1, 2) = 2; cell(0, 2, 1) = 1; cell(0, 2, 2) = 4
             reach(1, -400) = 1000; cell(0, 0, 1) = 1; cell(0, 0, 2) = 2; cell(0, 1, 1) = 0; cell(0, 1, 2) = 1; cell(0, 2, 1) = 1; cell(0, 2, 2) = 2
             fail(2, 0, 0, 1) = 1; cell(0, 0, 1) = 1; cell(0, 0, 2) = 1; cell(0, 1, 1) = 0; cell(0, 2, 1) = 0
+            """,
+            Scenes.THREE_IN_ROW_0 + """
+            row(0, 0, 13) = 14; cell(0, 0, 1) = 2; cell(0, 0, 2) = 7; cell(0, 1, 1) = 4; cell(0, 1, 2) = 7; cell(0, 2, 1) = 1; cell(0, 2, 2) = 7
+            reach(1, 400) = 1000; cell(0, 0, 1) = 0; cell(0, 1, 1) = 1; cell(0, 1, 2) = 1; cell(0, 2, 1) = 0
+            reach(0, 400) = 1000; reach(2, 400) = 1000; cell(0, 0, 1) = 2; cell(0, 1, 1) = 4; cell(0, 2, 1) = 1; cell(0, 2, 2) = 7
             """);
 
         edges.add("Part 2", "there is one, if any GAUGE is WORKING and the CATCHMENT has any PLOT.",

@@ -18,7 +18,8 @@ public final class FaceTest {
         "kept/1", "image/1", "restore/1", "count/1");
     private static final String[] FORBIDDEN = {
         "\\bthrow", "\\btry\\b", "\\bcatch\\b", "\\bfinally\\b", "\\bsynchronized\\b", "\\bassert\\b", "->", "::", "Exact\\b",
-        "\\bimport\\b", "\\bpackage\\b", "\\bvar\\b", "\\bprotected\\b", "\\bnull\\b", "\"", "static \\{", "java\\."};
+        "\\bpackage\\b", "\\bprotected\\b", "static \\{", "\\bRandom\\b", "\\bnanoTime\\b", "\\bcurrentTimeMillis\\b", "\\bThread\\b",
+        "java\\.(?!util\\.(ArrayList|List|Arrays|Iterator)\\b)"};
 
     private FaceTest() {
     }
@@ -66,7 +67,7 @@ public final class FaceTest {
         check.holds("more than twelve classes", inside.length < 12);
         for (Class<?> c : inside) {
             check.holds(c + " is not static", Modifier.isStatic(c.getModifiers()));
-            check.holds(c + " can be seen", Modifier.isPrivate(c.getModifiers()));
+            check.holds(c + " can be seen", !Modifier.isPublic(c.getModifiers()) && !Modifier.isProtected(c.getModifiers()));
             check.holds(c + " has too many fields", c.getDeclaredFields().length <= 20);
             for (Method m : c.getDeclaredMethods()) {
                 check.holds(m + " has too many parameters", m.getParameterCount() <= 7);
@@ -84,7 +85,8 @@ public final class FaceTest {
             check.holds("a sign beyond 126: " + (int) sign, sign <= 126);
         }
         check.holds("no source", text.length() > 1000);
-        String code = text.replaceAll("(?s)/\\*.*?\\*/", "").replaceAll("//[^\n]*", "");
+        String code = text.replaceAll("(?s)/\\*.*?\\*/", "").replaceAll("//[^\n]*", "")
+            .replaceAll("\\b(case [^>]*|default )->", "");  // a switch may have arrows, a lambda may not be
         for (String word : FORBIDDEN) {
             check.holds("it has " + word, !java.util.regex.Pattern.compile(word).matcher(code).find());
         }
